@@ -369,8 +369,10 @@ public final class UnsaidScales {
     private void beginAnew() {
         present.begin(told);
         history.size = 0;
-        Arrays.fill(kept, false);
-        drawer.fill(told);
+        for (int image = 0; image < IMAGES; image++) {
+            kept[image] = false;
+        }
+        drawer.layOut(told);
         evidence.begin();
     }
 
@@ -832,14 +834,17 @@ public final class UnsaidScales {
         }
 
         // Where all pairs are known, it is an order if how many are heavier than each tells it all.
+        // These loops go through the pairs as pairOf() numbers them.
         private boolean isOrder(int pairs) {
             countHeavierOnes(pairs);
+            int pair = 0;
             for (int higher = 1; higher < people; higher++) {
                 for (int lower = 0; lower < higher; lower++) {
                     int due = dueFinding(heavierOnes[lower], heavierOnes[higher]);
-                    if (foundOf(pairs, pairOf(lower, higher)) != due) {
+                    if (foundOf(pairs, pair) != due) {
                         return false;
                     }
+                    pair++;
                 }
             }
             return true;
@@ -847,14 +852,16 @@ public final class UnsaidScales {
 
         private void countHeavierOnes(int pairs) {
             Arrays.fill(heavierOnes, 0);
+            int pair = 0;
             for (int higher = 1; higher < people; higher++) {
                 for (int lower = 0; lower < higher; lower++) {
-                    int found = foundOf(pairs, pairOf(lower, higher));
+                    int found = foundOf(pairs, pair);
                     if (found == LOWER_HEAVIER) {
                         heavierOnes[higher]++;
                     } else if (found == HIGHER_HEAVIER) {
                         heavierOnes[lower]++;
                     }
+                    pair++;
                 }
             }
         }
@@ -874,7 +881,7 @@ public final class UnsaidScales {
         private final int[] panWeights = new int[PANS];
         private final int[] ways = new int[MOST_BRASS + 1];
 
-        void fill(ToldShop shop) {
+        void layOut(ToldShop shop) {
             int pans = 1 << shop.pieceCount;
             for (int pan = 0; pan < pans; pan++) {
                 panWeights[pan] = weigh(pan, shop);
