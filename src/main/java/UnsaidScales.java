@@ -988,15 +988,26 @@ public final class UnsaidScales {
             fewest[0] = 0;
             int all = 0;
             for (int s = 0; s < SORTS; s++) {
-                int weight = weights[s];
-                for (int thing = 0; thing < held[p * SORTS + s]; thing++) {
-                    all += weight;
-                    for (int shed = all; shed >= weight; shed--) {
-                        fewest[shed] = Math.min(fewest[shed], fewest[shed - weight] + 1);
-                    }
+                // Bundles of 1, 2, 4 and the rest make up each number of things in fewer rounds.
+                int left = held[p * SORTS + s];
+                for (int bundle = 1; left > 0 && bundle <= MOST_HELD; bundle *= 2) {
+                    int things = Math.min(bundle, left);
+                    all += things * weights[s];
+                    offerBundle(fewest, all, things * weights[s], things);
+                    left -= things;
                 }
             }
             return all;
+        }
+
+        // Downwards, as a bundle is said once at most.
+        private static void offerBundle(int[] fewest, int all, int weight, int things) {
+            for (int shed = all; shed >= weight; shed--) {
+                int sum = fewest[shed - weight] + things;
+                if (sum < fewest[shed]) {
+                    fewest[shed] = sum;
+                }
+            }
         }
 
         /** The first way to shed so much with so many things, a figure for each SORT. */
