@@ -271,6 +271,12 @@ public final class BoundsTest {
         c.same("eight", Shops.allHeld(x, 0), 8999);
         x.day();
         c.same("nine again", Shops.allHeld(x, 0), 9999);
+        x = Shops.told("p9 0 8 7;".repeat(4) + "g0 3 2;g1 0 1;g1 3 3;g2 2 1;g2 1 3;g3 0 2;g3 2 2;g3 3 1;");
+        x.day();
+        int[] due = {9089, 9089, 9397, 9098};
+        for (int p = 0; p < 4; p++) {
+            c.same("each of four, " + p, Shops.allHeld(x, p), due[p]);
+        }
     }
 
     private static void daysOfNobody() {
@@ -532,6 +538,9 @@ public final class BoundsTest {
         x.weighs(2, 3);
         c.same("three pairs are not known, none is needed", x.now(4), NONE);
         c.same("pairs", x.now(1), 3);
+        x.undo();
+        // 3 is put in among 0, 1, 2 by halves: neither 0 nor 2 leaves so little at worst.
+        c.same("the least, ahead of the first", x.now(4), 13);
     }
 
     private static void shownSix() {
@@ -654,6 +663,20 @@ public final class BoundsTest {
         // 16 against 7: nine less, or 16 and 7: one thing each way; nothing is shed by one alone.
         level("s0 7;s1 16;s2 9;p0 1 0 0;p1 0 0 0;", 2, 0, "0100", "1000");
         level("s0 1;s1 2;s2 3;s3 4;p0 0 1 1;p1 1 0 1;", 0, 7, "0000", "0000");
+        // 5 against 4: 2 and 1 said leave 3, 3 and 2 said leave 2.
+        level("s0 1;s1 2;s2 3;s3 4;p0 1 1 0;p2 1 0 0;", 2, 3, "0100", "1000");
+        // 5 are 4 and 1, or 3 and 2.
+        level("s0 4;s1 3;s2 2;s3 1;p2 2 2 2;p0 5 0 0;", 2, 15, "0110", "0000");
+        // 6 are 5 and 1, or 3 and 3.
+        level("s0 20;s1 5;s2 3;s3 1;p0 1 2 1;p0 0 2 0;", 2, 6, "0020", "0000");
+        // 2 is one thing, not two of 3 less one of 4; 7 is 4 and 3, of which he holds one each.
+        level("s0 1;s1 2;s2 3;s3 4;p0 1 2 0;p0 0 2 0;", 1, 6, "0100", "0000");
+        level("s0 1;s1 2;s2 3;s3 4;p0 3 1 1;p0 3 0 0;", 2, 6, "0011", "0000");
+        // As few as he holds of SORT 2, and of SORT 3.
+        level("s0 5;s1 4;s2 2;s3 1;p0 1 1 3;p0 0 0 3;", 2, 3, "0110", "0000");
+        level("s0 7;s1 5;s2 3;s3 1;p0 1 3 1;p0 1 0 1;", 3, 6, "0030", "0000");
+        // 8 are 5 and 3, or two of 4, of which he holds one.
+        level("s0 7;s1 5;s2 3;s3 4;p0 1 2 1;p1 0 0 0;", 2, 7, "0110", "0000");
         level("s0 1;s1 2;s2 3;s3 4;p1 1 1 1;p0 0 0 1;", 2, 4, "0101", "0000");
     }
 
@@ -834,6 +857,15 @@ public final class BoundsTest {
         odds("p0 0 0 0;p1 0 0 0;", 0, 5, 1, 1);
         odds("p0 0 0 0;p1 0 0 0;", 3, 0, 1, 1);
         odds("p9 0 0 0;p9 9 0 0;", 3, 10, 1, 1);
+        c.part("ODDS of others than the first");
+        UnsaidScales x = Shops.told("p0 0 0 0;p3 1 0 0;p0 0 2 1;p2 2 0 9;");
+        c.same("of one, upper", x.odds(1, 0, 0, 5, 0), 0);
+        c.same("of one, upper", x.odds(1, 2, 0, 5, 0), 1);
+        c.same("of two, upper", x.odds(2, 1, 3, 9, 0), 0);
+        c.same("of two, upper", x.odds(2, 1, 3, 9, 1), 1);
+        // 154 less 16 each against 34: eight or nine of nine must be said.
+        c.same("of three, upper", x.odds(3, 2, 3, 5, 0), 5);
+        c.same("of three, lower", x.odds(3, 2, 3, 5, 1), 256);
         c.part("ODDS: to nobody");
         odds("p1 0 0 0;p0 0 0 0;", 0, 10, 0, 1);
         odds("p0 1 0 0;p4 0 0 0;", 1, 5, 1, 2);
@@ -1004,6 +1036,9 @@ public final class BoundsTest {
         x.keep(0);
         x.keep(1);
         x.rate(5, 0);
+        // What was made up for the old weights must not stay.
+        c.same("can", x.can(0, 2), 9 * (7 + 4 + 9 + 16));
+        c.same("orders", x.now(2), 1);
         return x;
     }
 
